@@ -933,7 +933,7 @@ public final class WellTalk {
         }
 
         int stay(int well) {
-            return in(well, count) && stone[well] == SAND ? 2 : 1;
+            return well >= 0 && well < count && stone[well] == SAND ? 2 : 1;
         }
     }
 
@@ -1110,7 +1110,7 @@ public final class WellTalk {
         }
 
         private void begin(Wells wells, int covered, int over) {
-            if (in(over, wells.count) && (covered >> over & 1) == 0) {
+            if (over >= 0 && over < wells.count && (covered >> over & 1) == 0) {
                 place = over;
             } else {
                 rest = 0;

@@ -109,6 +109,12 @@ public final class DrawnTest {
         x.draw(0, 2, 0);
         Due.due("bucket(0) of a saying that there is not", x.bucket(0), 0);
         Due.due("the bucket stays as told", x.saying(0, 2), 1);
+        x.forget();
+        x.draw(2, 0, 1);
+        Due.events(x, 1, 2, 2);
+        Due.due("bucket(0) as soon as there is a lid", x.bucket(0), 0);
+        x.back();
+        Due.due("bucket(0) as soon as there is none", x.bucket(0), 2);
     }
 
     private static void asking() {

@@ -6,7 +6,7 @@ public final class ModelTest {
     private static final String[] NAMES = {"type", "wipe", "undo", "fault", "well", "saying", "event", "back", "read",
         "at", "hears", "soon", "gone", "babel", "tell", "toss", "open", "iron", "draw", "forget", "never", "stone",
         "bucket", "ask", "chance", "day", "sheet", "lose", "lay", "get", "copy", "write", "count", "digest"};
-    private static final int EVENT = 6, AT = 9, DRAW = 18, COPY = 30, DIGEST = 33;
+    private static final int EVENT = 6, AT = 9, DRAW = 18, OPEN = 16, COPY = 30, COUNT = 32, DIGEST = 33;
 
     /** For each call, the bound of each argument: its lots go from -1 to the bound, so both ends are wrong at times. */
     private static final int[][] BOUNDS = {{2, 256}, {2}, {2}, {2}, {8, 4}, {8, 8}, {3, 40, 8}, {}, {4},
@@ -202,6 +202,53 @@ public final class ModelTest {
         hold(32, 4);
     }
 
+    /** What comes just in the hours that the digest tells. */
+    private void digestHours() {
+        int[] hours = {0, 8, 20, 39};
+        typeIn(0, "g9;s5;g0");
+        typeIn(1, "a2iabc;a1wab;a2ia");
+        for (int h : hours) {
+            hold(EVENT, 0, h, 2);
+            hold(DIGEST);
+            hold(EVENT, 1, h, 1);
+            hold(DIGEST);
+            hold(7);
+        }
+    }
+
+    /** A few sayings, and lids in their way. */
+    private void lidsInTheWay() {
+        typeIn(0, "g9;g" + lots.nextInt(10) + ";s" + lots.nextInt(10) + ";g" + lots.nextInt(3));
+        typeIn(1, lots.nextBoolean() ? "c0iab" : "c0iab;b" + lots.nextInt(4) + "wab");
+        while (m.count(4) < 3 + run % 6) {
+            hold(EVENT, lots.nextInt(5) == 0 ? lots.nextInt(3) : 1, lots.nextInt(6), lots.nextInt(4));
+        }
+        for (int w = 0; w < 8; w++) {
+            for (int i = -1; i < 2; i++) {
+                hold(OPEN, w, i);
+            }
+        }
+        hold(DIGEST);
+    }
+
+    /** What was answered ahead of a change is not to be answered behind it. */
+    private void change(int k) {
+        switch (k % 4) {
+            case 0:
+                hold(2, k % 8 / 4);
+                break;
+            case 1:
+                hold(0, k % 8 / 4, k % 8 == 1 ? '0' + lots.nextInt(10) : 'a' + lots.nextInt(8));
+                break;
+            case 2:
+                holdByLot(7);
+                break;
+            default:
+                eventByLot();
+                break;
+        }
+    }
+
     private void go() {
         String wells = wellsByLot();
         String sayings = sayingsByLot();
@@ -221,11 +268,16 @@ public final class ModelTest {
         for (int d = 0; d < draws; d++) {
             drawByLot();
         }
-        for (int k = 0; k < 52; k++) {
+        for (int k = 0; k < 46; k++) {
             holdByLot(3 + lots.nextInt(3));
             holdByLot(AT + lots.nextInt(5));
             holdByLot(AT + lots.nextInt(DRAW - AT));
             holdByLot(DRAW + 2 + lots.nextInt(6));
+        }
+        for (int k = 0; k < 16 && run % 4 != 0; k++) {
+            change(k);
+            int call = lots.nextInt(3) > 0 ? AT + lots.nextInt(DRAW - AT) : DRAW + 2 + lots.nextInt(6);
+            holdByLot(lots.nextInt(8) == 0 ? COUNT : call);
         }
         if (run % 2 == 0) {
             holdByLot(7);
@@ -243,7 +295,9 @@ public final class ModelTest {
         int from = args.length > 1 ? Integer.parseInt(args[1]) : 0;
         for (int run = from; run < from + runs; run++) {
             new ModelTest(run).go();
+            new ModelTest(run).lidsInTheWay();
         }
+        new ModelTest(0).digestHours();
         Due.end();
     }
 }

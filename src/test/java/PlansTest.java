@@ -122,6 +122,9 @@ public final class PlansTest {
         Due.due("open(0, 2)", x.open(0, 2), -2);
         Due.due("count(4)", x.count(4), 5);
         Due.due("the events stay", x.gone(), 3);
+        WellTalk first = Due.village("g9;g5;g0", "a0ia");
+        Due.events(first, 1, 2, 2, 0, 30, 0);
+        dueOpen(first, 2, 1, 0, -1);
         WellTalk none = Due.village("g9", "");
         dueOpen(none, 0, 0, -1, -1);
         dueOpen(none, 7, 0, -1, -1);

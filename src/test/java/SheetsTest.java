@@ -170,6 +170,10 @@ public final class SheetsTest {
         for (int what = 0; what < want.length; what++) {
             Due.due("count(" + what + ")", x.count(what), want[what]);
         }
+        Due.events(x, 1, 2, 2);
+        Due.due("count(6) as soon as there is a lid", x.count(6), 1);
+        x.back();
+        Due.due("count(6) as soon as there is none", x.count(6), 2);
         Due.due("count(-1)", x.count(-1), -2);
         Due.due("count(9)", x.count(9), -2);
         Due.type(x, 0, ";");
