@@ -1,9 +1,22 @@
+import java.lang.reflect.InvocationTargetException;
+import java.util.Arrays;
+import java.util.regex.Matcher;
+import java.util.regex.Pattern;
+
 /** What the tests have in common: they tell what is due, and print what is not. */
 final class Due {
+    private static final Pattern ROW = Pattern.compile("(\\w+)\\(([^)]*)\\) = (.+)");
+
     private static int right = 0;
     private static int wrong = 0;
+    private static String sentence = "";
 
     private Due() {
+    }
+
+    /** The document's sentence that the next calls hold to; it stands ahead of each answer that is not as due. */
+    static void says(String words) {
+        sentence = "\"" + words + "\": ";
     }
 
     static void due(String call, long got, long want) {
@@ -13,11 +26,10 @@ final class Due {
         }
         wrong++;
         if (wrong <= 40) {
-            System.out.println(call + " answered " + got + ", due is " + want);
+            System.out.println(sentence + call + " answered " + got + ", due is " + want);
         }
     }
 
-    /** The words stand for the promise that the next calls are about. */
     static void dueAll(String call, long[] got, long... want) {
         due(call + ": how many answers", got.length, want.length);
         for (int i = 0; i < Math.min(got.length, want.length); i++) {
@@ -32,10 +44,68 @@ final class Due {
         }
     }
 
+    /**
+     * Each row is a call and the answer that is due: "tell(0, 1, 0) = NONE". With a * for an argument it is a call for
+     * each of the answers, the * being 0, 1, 2 ..: "at(*, 0, 0) = NONE 0 1 2".
+     */
+    static void calls(WellTalk x, String... rows) {
+        for (String row : rows) {
+            Matcher m = ROW.matcher(row);
+            if (!m.matches()) {
+                throw new IllegalArgumentException(row);
+            }
+            String[] want = m.group(3).split(" ");
+            for (int k = 0; k < want.length; k++) {
+                String args = m.group(2).replace("*", "" + k);
+                due(m.group(1) + "(" + args + ")", answer(x, m.group(1), args), number(want[k]));
+            }
+        }
+    }
+
+    private static long answer(WellTalk x, String name, String args) {
+        String[] told = args.isEmpty() ? new String[0] : args.split(", *");
+        Class<?>[] types = new Class<?>[told.length];
+        Arrays.fill(types, int.class);
+        Object[] a = new Object[told.length];
+        for (int k = 0; k < a.length; k++) {
+            a[k] = (int) number(told[k]);
+        }
+        return answer(x, name, types, a);
+    }
+
+    /** The answer of the method so named to these arguments. */
+    static long answer(WellTalk x, String name, Class<?>[] types, Object[] a) {
+        try {
+            return ((Number) WellTalk.class.getMethod(name, types).invoke(x, a)).longValue();
+        } catch (InvocationTargetException e) {
+            throw new IllegalStateException(sentence + name + Arrays.toString(a) + " has thrown", e.getCause());
+        } catch (ReflectiveOperationException e) {
+            throw new IllegalArgumentException(name + Arrays.toString(a), e);
+        }
+    }
+
+    static long number(String s) {
+        switch (s) {
+            case "NONE": return -1;
+            case "BAD": return -2;
+            case "NOT": return -3;
+            case "FULL": return -4;
+            case "NULL": return -11;
+            case "INDEX": return -12;
+            case "CAST": return -13;
+            case "STORE": return -14;
+            case "SIZE": return -15;
+            case "MAX": return Integer.MAX_VALUE;
+            case "MIN": return Integer.MIN_VALUE;
+            case "LEAST": return Long.MIN_VALUE + 2;
+            default: return Long.parseLong(s);
+        }
+    }
+
     static void type(WellTalk x, int text, String s) {
+        int many = x.count(2 + text);
         for (int i = 0; i < s.length(); i++) {
-            int many = x.count(2 + text);
-            due("type(" + text + ", " + (int) s.charAt(i) + ")", x.type(text, s.charAt(i)), many + 1);
+            due("type(" + text + ", " + (int) s.charAt(i) + ")", x.type(text, s.charAt(i)), many + i + 1);
         }
     }
 
@@ -46,6 +116,13 @@ final class Due {
         return x;
     }
 
+    /** A village and its events: the kind, the hour, the well of each. */
+    static WellTalk village(String wells, String sayings, int... told) {
+        WellTalk x = village(wells, sayings);
+        events(x, told);
+        return x;
+    }
+
     static void retype(WellTalk x, int text, String s) {
         x.wipe(text);
         type(x, text, s);
@@ -53,9 +130,10 @@ final class Due {
 
     /** COIN, LID, DROUGHT: 0, 1, 2, then the hour and the well, each event behind the others. */
     static void events(WellTalk x, int... told) {
+        int many = x.count(4);
         for (int i = 0; i + 2 < told.length; i += 3) {
-            int many = x.count(4);
-            due("event " + many, x.event(told[i], told[i + 1], told[i + 2]), many + 1);
+            many++;
+            due("event " + many, x.event(told[i], told[i + 1], told[i + 2]), many);
         }
     }
 
