@@ -4,12 +4,6 @@ import java.util.List;
 
 /** Promise 35, from the answers of the other calls, and what no refusal changes. */
 public final class DigestEdgesTest {
-    private static final String DIGEST = "h is 17; h becomes 31 h and each of (of each thing all that is told of it, then of the next one): "
-        + "count() 0 to 7; of texts fault(); of WELLS well() 0 to 3, hears(), soon(), toss() 0 to 2, open(it, NONE), open(it, 0), "
-        + "stone() 0, 1, ask(); of SAYINGS saying() 0 to 7, of HOURS 0, 8, 20, 39 at(the HOUR, it, 0 to 4), "
-        + "then tell(it, 0, 0 and 1), bucket(), chance(5, it, 0), above, below; gone(), babel() 0, 1, iron() 0, 1, never(), "
-        + "day(7, 6, 0 and 1); as longs that wrap.";
-
     /** What the digest is of, in its order, by the calls of the face. */
     private static List<Long> told(WellTalk x) {
         List<Long> all = new ArrayList<>();
@@ -69,13 +63,19 @@ public final class DigestEdgesTest {
     }
 
     private static void digests() {
-        Due.says(DIGEST);
+        Due.says("h is 17; h becomes 31 h and each of (of each thing all that is told of it, then of the next one): "
+            + "count() 0 to 7; of texts fault(); of WELLS well() 0 to 3, hears(), soon(), toss() 0 to 2, open(it, NONE), open(it, 0), "
+            + "stone() 0, 1, ask(); of SAYINGS saying() 0 to 7, of HOURS 0, 8, 20, 39 at(the HOUR, it, 0 to 4), "
+            + "then tell(it, 0, 0 and 1), bucket(), chance(5, it, 0), above, below; gone(), babel() 0, 1, iron() 0, 1, never(), "
+            + "day(7, 6, 0 and 1); as longs that wrap.");
         Due.due("of an empty one", folded(told(new WellTalk())), new WellTalk().digest());
         int[] none = {};
         dueDigest("", "", none);
         dueDigest("g5", "", none);
         dueDigest("", "a0ia", none);
         dueDigest("g5;", "a0ia;", none);
+        dueDigest("s7;g1;g0;g1;s8;c8", "j2wab;u0iab;u1wa;w5iab;i3wab;a1wab", none);
+        dueDigest("g2;s6", "i0iab;j1wab;s0wab;l0ia;b1wa;x1wa;q0wa;u0iab", none);
         dueDigest("g9;g5;g1", "a0ia;a1ia;x0wab", none);
         dueDigest("g9;c5;g1", "a0iab;h0iab;t0wab", new int[] {1, 0, 1}, 0, 8, 1, 1, 20, 2);
         dueDigest("g3;g5;g1", "g1iab;h1iab;s1iab;t1wab", none, 1, 8, 0, 1, 20, 0, 0, 39, 2, 1, 37, 1);

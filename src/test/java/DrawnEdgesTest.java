@@ -58,6 +58,9 @@ public final class DrawnEdgesTest {
     }
 
     private static void never() {
+        Due.says("NEVER, as bits.");
+        WellTalk four = Due.village("g9;g5", "a0ia", COIN, 30, 0, LID, 0, 0, DROUGHT, 30, 0, LID, 30, 0);
+        Due.calls(four, "never() = 15", "draw(0, 0, 1) = 1", "never() = 2", "draw(0, 0, 0) = 2", "never() = 0");
         Due.says("NEVER: EVENTS each of which, had it alone not been, makes all that was DRAWN come out so, as bits.");
         Due.calls(new WellTalk(), "never() = 0", "draw(0, 0, 0) = 1", "never() = 0");
         for (int place = 0; place < 8; place++) {
@@ -115,6 +118,8 @@ public final class DrawnEdgesTest {
     }
 
     private static void buckets() {
+        Due.says("BUCKET, as bits. BAD.");
+        Due.calls(Due.village("g9", "a0ia"), "bucket(0) = 3", "bucket(1) = BAD", "bucket(-1) = BAD", "bucket(7) = BAD");
         Due.says("BUCKET of a SAYING: 0 i, 1 w, in place of its own, likewise, as bits.");
         for (char own : "iw".toCharArray()) {
             WellTalk x = Due.village("g9;g8;g7", "a0ia;a0" + own + "ab");
@@ -129,6 +134,8 @@ public final class DrawnEdgesTest {
     }
 
     private static void asking() {
+        Due.says("ASK. BAD.");
+        Due.calls(Due.village("g9;g5", "b0ia"), "ask(*) = 2 2 BAD", "ask(-1) = BAD", "ask(7) = BAD");
         Due.says("ASK of a WELL: the HOUR behind which the greatest number of those of STOOD by which as many SAYINGS are in it is least, "
             + "of like ones the least.");
         Due.calls(Due.village("g9;g5", "a0ia"), "ask(-1) = BAD", "ask(2) = BAD", "ask(MIN) = BAD", "ask(MAX) = BAD");
@@ -138,6 +145,8 @@ public final class DrawnEdgesTest {
         Due.calls(Due.village("g9;g5", "a0ia"), "ask(1) = 1", "draw(0, 0, 2) = 1", "stone(1, 1) = 0", "ask(*) = 0 0");
         Due.calls(Due.village("g9;g5", "x0ia"), "ask(1) = 24", "ask(0) = 24");
         Due.calls(Due.village("g0;g5;g3", "a0ia", COIN, 39, 0), "ask(2) = 39", "ask(1) = 39");
+        Due.calls(Due.village("g9;g5", "a0ia;a0ia;a0ia;a0ia;a0ia;a0ia;a0ia;a0ia"), "ask(*) = 1 1");
+        Due.calls(Due.village("g5;g4;g3", "a1ia"), "ask(0) = 2", "undo(1) = 3", "undo(1) = 2", "type(1, 119) = 3", "type(1, 97) = 4", "ask(0) = 1");
         WellTalk wood = Due.village("s1;c8;g1", "a1wa;a2wabc");
         Due.calls(wood, "draw(1, 1, 3) = 1", "stone(2, 1) = 511", "ask(2) = 2");
         WellTalk three = Due.village("g9;g2;g6", "a0iabc;a0wa;b0wa");
@@ -183,6 +192,7 @@ public final class DrawnEdgesTest {
             int not = 16 - c;
             dueFraction(Due.village("g9;g5;g1", "a0ia;a1ia", LID, 1, 1), c, 0, 1, not, 16);
             dueFraction(Due.village("g9;g5;g1", "a0ia;a1ia", COIN, 1, 1), c, 1, 0, c, 16);
+            dueFraction(Due.village("g9;g5;g1", "a0ia;a0wa", LID, 1, 1), c, 1, 2, c, 16);
             dueFraction(Due.village("g9;g5;g1", "a0ia;a1ia", COIN, 1, 1, COIN, 1, 1), c, 1, 0, 256 - not * not, 256);
             dueFraction(Due.village("g9;g5;g1", "a0ia;a1ia", LID, 1, 1, LID, 1, 1, LID, 0, 1), c, 0, 1, not * not * not, 4096);
             dueFraction(Due.village("g9;g5;g1", "a0ia;a1ia", COIN, 1, 1, LID, 1, 0), c, 1, 0, c * not, 256);
@@ -215,11 +225,15 @@ public final class DrawnEdgesTest {
         Due.calls(Due.village("", "a0ia;a7wb"), "day(0, 8, *) = 2 0", "day(7, 0, *) = 2 0", "day(7, 9, 0) = BAD");
         Due.calls(new WellTalk(), "day(0, 8, *) = 0 0", "day(0, 9, 0) = BAD");
         Due.calls(Due.village("g5;g5", "a0ia;a1ia"), "day(1, 1, *) = 0 1", "day(1, 0, *) = 0 0");
+        Due.calls(Due.village("g5", "n0ia"), "day(7, 3, *) = 0 0", "day(7, 4, *) = 1 0", "day(7, 8, *) = 1 0", "gone() = 0");
     }
 
     /** The lots were told once by other means than the class: a kind, an hour, one of three wells. */
     private static void days() {
         Due.says("LOTS of m: SEED becomes 1103515245 SEED and 12345, as ints that wrap; its upper 16 bits as a number from 0 on, modulo m.");
+        Due.says("DAY by a SEED: n EVENTS (0 to 8), in place of those told (none where there are no WELLS): "
+            + "of each a LOT of 3 (its kind), a LOT of 40 (its HOUR), a LOT of WELLS: how many SAYINGS are GONE; "
+            + "how many are ever HEARD at THE LAST WELL.");
         dueDay(0, 0, 36, 0, 0, 18, 0, 1, 29, 1, 1, 29, 1, 0, 38, 0, 0, 8, 0, 1, 21, 2, 0, 25, 2);
         dueDay(1, 2, 6, 0, 0, 19, 1, 2, 27, 2, 0, 29, 2, 0, 28, 2, 1, 17, 2, 2, 14, 1, 0, 15, 0);
         dueDay(7, 0, 6, 2, 0, 11, 1, 0, 30, 2, 1, 13, 0, 2, 2, 1, 1, 25, 2, 0, 28, 2, 2, 39, 2);

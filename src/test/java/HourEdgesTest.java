@@ -10,6 +10,9 @@ public final class HourEdgesTest {
     }
 
     private static void at() {
+        Due.says("HOURS are 0 to 39.");
+        Due.calls(Due.village("g5", "a0ia"), "at(0, 0, 0) = 0", "at(39, 0, 0) = 0", "at(40, 0, 0) = BAD", "at(-1, 0, 0) = BAD",
+            "event(0, 39, 0) = 1", "event(0, 40, 0) = BAD", "event(0, -1, 0) = BAD", "draw(39, 0, 1) = 1", "draw(40, 0, 1) = BAD");
         Due.says("The WELL (what = 0; NONE), letters left (1), the first (2; NONE), the last (3; NONE), "
             + "whether HEARD in it (4: 1, 0). BAD.");
         WellTalk x = Due.village("g9;g5", "a0iab;x1wcd");
@@ -32,6 +35,9 @@ public final class HourEdgesTest {
     }
 
     private static void hears() {
+        Due.says("HEARS, as bits. BAD.");
+        WellTalk two = Due.village("g9;g5", "a0ia");
+        Due.calls(two, "hears(*) = 0 1 BAD", "hears(-1) = BAD", "hears(7) = BAD", "hears(MIN) = BAD", "hears(MAX) = BAD");
         Due.says("HEARS of a WELL: SAYINGS that are ever HEARD there, as bits.");
         WellTalk x = Due.village(EIGHT_DOWN, "a0ia;a1ia;a2ia;a3ia;a4ia;a5ia;a6ia;a7ia");
         Due.calls(x, "hears(*) = 0 1 3 7 15 31 63 127 BAD", "hears(-1) = BAD", "hears(MIN) = BAD", "hears(MAX) = BAD");
@@ -42,6 +48,9 @@ public final class HourEdgesTest {
     }
 
     private static void soon() {
+        Due.says("SOON; NONE. BAD.");
+        WellTalk two = Due.village("g9;g5", "a0ia");
+        Due.calls(two, "soon(*) = NONE 1 BAD", "soon(-1) = BAD", "soon(7) = BAD", "soon(MIN) = BAD", "soon(MAX) = BAD");
         Due.says("SOON of a WELL: the first HOUR in which any is; NONE.");
         WellTalk x = Due.village("g9;g5;g0", "d0ia;b0ia;c0ia");
         Due.calls(x, "soon(*) = NONE 2 3 BAD", "soon(-1) = BAD", "soon(MIN) = BAD", "soon(MAX) = BAD");
@@ -55,6 +64,11 @@ public final class HourEdgesTest {
     }
 
     private static void gone() {
+        Due.says("GONE, as bits.");
+        Due.calls(new WellTalk(), "gone() = 0");
+        for (int s = 0; s < 8; s++) {
+            Due.calls(Due.village("g5", EIGHT_SAID.substring(0, 5 * s + 1) + "7" + EIGHT_SAID.substring(5 * s + 2)), "gone() = " + (1 << s));
+        }
         Due.says("GONE: SAYINGS that are LOST behind HOUR 39, as bits.");
         Due.calls(Due.village("", EIGHT_SAID), "gone() = 255", "count(5) = 8");
         Due.calls(Due.village("g1", EIGHT_SAID), "gone() = 0", "count(5) = 0");
@@ -68,9 +82,13 @@ public final class HourEdgesTest {
     }
 
     private static void babel() {
+        Due.says("BABEL: the HOUR (what = 0), the WELL (1); NONE. BAD.");
+        WellTalk two = Due.village("g9;g5", "c0ia;c0ia");
+        Due.calls(two, "babel(*) = 3 1 BAD", "babel(-1) = BAD", "babel(MIN) = BAD", "babel(MAX) = BAD", "undo(1) = 8", "babel(0) = NONE");
         Due.says("BABEL: the first HOUR in which two or more are HEARD at one WELL; the least such WELL; NONE.");
         Due.calls(new WellTalk(), "babel(*) = NONE NONE BAD", "babel(-1) = BAD", "babel(MIN) = BAD", "babel(MAX) = BAD");
         Due.calls(Due.village("g9;g5", "a0ia"), "babel(*) = NONE NONE");
+        Due.calls(Due.village("g1;g5", "a1ia"), "babel(*) = NONE NONE", "hears(0) = 1");
         Due.calls(Due.village("g9;g5", "a0ia;a0ia"), "babel(*) = 1 1");
         Due.calls(Due.village("g9;g5", "a0ia;a0ia;a0ia"), "babel(*) = 1 1");
         Due.calls(Due.village("g9;g5", "a0ia;b0ia"), "babel(*) = NONE NONE");

@@ -99,6 +99,12 @@ public final class LanguageTest {
         while (imports.find()) {
             Due.due("import of " + imports.group(1), imports.group(1).matches("java\\.util\\.(Arrays|ArrayList|List)") ? 1 : 0, 1);
         }
+        // All calls of a run share one room: only what the constructor makes is made.
+        for (String line : code.split("\n")) {
+            boolean isMade = line.contains("new ");
+            boolean isByConstructor = line.matches(" +private final .* = .*|        +new Path\\(\\).*|        +new BestCoin\\(\\).*|            bytes = new int.*");
+            Due.due("made outside the constructor: " + line.trim(), isMade && !isByConstructor ? 1 : 0, 0);
+        }
         int opened = -1;
         String[] lines = source.split("\n");
         for (int i = 0; i < lines.length; i++) {

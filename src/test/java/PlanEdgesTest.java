@@ -29,6 +29,7 @@ public final class PlanEdgesTest {
         Due.calls(Due.village("s9;g9;g8;g5", "a0ia"), "tell(0, 2, *) = 1 1", "tell(0, 3, *) = 2 1");
         Due.calls(Due.village("s9;s8;g5", "a0ia"), "tell(0, 1, *) = 0 2", "tell(0, 2, *) = 1 2");
         Due.calls(Due.village("g9;g8;g7", "a0wa"), "tell(0, 2, *) = 1 1");
+        Due.calls(Due.village("g9;g8;g7", "c0wa;c0ia", LID, 0, 1), "tell(0, 2, *) = NONE NONE", "tell(1, 2, *) = 0 4");
         Due.calls(Due.village("g9;c8;g7", "a0ia"), "tell(0, 1, *) = NONE NONE", "tell(0, 2, *) = 1 1");
         Due.calls(Due.village("g9;c8;g7", "a0iab"), "tell(0, 1, *) = 0 1", "tell(0, 2, *) = 1 1");
         Due.calls(Due.village("g9;g5;g1", "a0ia", LID, 0, 1), "tell(0, 2, *) = 0 1", "tell(0, 1, *) = NONE NONE");
@@ -62,6 +63,7 @@ public final class PlanEdgesTest {
         Due.calls(Due.village("g9;g5;g5;g0", "a2ia;b1ia"), "toss(0, *) = 1 2 1");
         Due.calls(Due.village("g9;g5;g5;g0", "a1ia;b2ia;b2ia"), "toss(0, *) = 2 2 2");
         Due.calls(Due.village("g9;s5;g0", "a1ia"), "toss(0, *) = 2 1 1");
+        Due.calls(Due.village("g9;g5;g0", "b0wa"), "toss(0, *) = 0 0 0", "undo(1) = 3", "type(1, 98) = 4", "type(1, 99) = 5", "toss(0, *) = 3 1 1");
         Due.calls(Due.village("g5;g0", "x1ia"), "toss(0, *) = 24 1 1", "toss(1, *) = 24 1 1");
         Due.calls(Due.village("g0;g5", "a0ia", LID, 1, 1), "toss(1, *) = 4 0 1");
         Due.calls(Due.village("g9;g5;g0", "a1ia", COIN, 1, 1), "toss(0, *) = 0 0 1", "toss(1, *) = 0 0 1");
@@ -78,6 +80,7 @@ public final class PlanEdgesTest {
             Due.calls(full, "toss(0, *) = 1 1 1", "event(2, 39, 0) = " + e);
         }
         Due.calls(full, "toss(0, *) = 1 1 1", "event(0, 1, 1) = FULL", "count(4) = 8", "hears(0) = 0", "never() = 255");
+        Due.calls(Due.village("g9;g5;g1", "a2ia", COIN, 1, 2), "toss(0, *) = 2 1 1", "hears(1) = 1");
         Due.calls(Due.village("g9;g5;g0", "a0ia;a0ia", LID, 0, 2), "toss(2, *) = 1 0 2", "toss(1, *) = 0 0 2");
         Due.calls(Due.village("g9;g5;g0", "b1ia", LID, 2, 2), "gone() = 1", "toss(2, *) = 0 0 0", "toss(1, *) = 2 1 1");
         Due.calls(Due.village("g5;g9;g0", "a0ia;b0ia", LID, 2, 1), "toss(1, *) = 1 0 1", "toss(2, *) = 0 0 2");

@@ -233,6 +233,9 @@ public final class TextEdgesTest {
                 Due.calls(x, "well(0, *) = " + stone + " " + high + " NONE NONE");
             }
         }
+        Due.says("DOWN, UP of a WELL; NONE.");
+        Due.calls(Due.village("g5;g5", ""), "well(*, 2) = NONE NONE BAD", "well(*, 3) = NONE NONE BAD");
+        Due.calls(Due.village("g5;g6", ""), "well(*, 2) = NONE 0 BAD", "well(*, 3) = 1 NONE BAD");
         Due.says("DOWN from a WELL is the highest one of those that are lower, UP the lowest one of those that are higher, "
             + "of like ones the least; NONE.");
         WellTalk like = Due.village("g5;c5;s5;g9;g9;g0;g0;g5", "");

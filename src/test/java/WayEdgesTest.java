@@ -195,6 +195,7 @@ public final class WayEdgesTest {
         Due.calls(x, "at(*, 0, 2) = 0 0 1 1 2 2 3 3 NONE NONE", "at(*, 0, 3) = 3 3 3 3 3 3 3 3 NONE NONE");
         Due.calls(x, "at(*, 0, 4) = 0 1 1 1 1 1 1 1 0 0", "at(*, 1, 1) = 4 4 4 4 4 4 4 4 4 4", "at(8, 1, *) = 0 4 0 3 1");
         Due.calls(x, "at(*, 2, 1) = 2 2 1 1 0 0", "at(*, 3, 1) = 1 1 0 0", "gone() = 13", "count(6) = 20");
+        Due.calls(x, "event(0, 39, 0) = 5", "at(*, 0, 2) = 0 0 1 1 2 2 3 3 NONE", "back() = 4", "at(0, 0, *) = 0 4 0 3 0");
         WellTalk covered = Due.village("g9;g8;g7;g6", "a0wabcd", LID, 1, 1);
         Due.calls(covered, "at(*, 0, 1) = 4 4 3 3", "at(*, 0, 0) = 0 2 3 3");
         WellTalk dry = Due.village("g9;g8;g7;g1", "a0wabcd;a0wa", DROUGHT, 2, 0);
