@@ -3,7 +3,6 @@ import java.util.Arrays;
 /** The edges that the document names of its part 4: DRAWN, NEVER, STONE .. ASK, CHANCE, DAY; promises 20 to 27. */
 public final class DrawnEdgesTest {
     private static final int COIN = 0, LID = 1, DROUGHT = 2;
-    private static final String EIGHT_DOWN = "g9;g8;g7;g6;g5;g4;g3;g2";
 
     private static void drawing() {
         Due.says("DRAWN more: how many. BAD; FULL.");
@@ -29,7 +28,7 @@ public final class DrawnEdgesTest {
         Due.calls(x, "never() = 0", "forget() = 1", "draw(0, 1, 1) = 1", "never() = 1", "stone(0, *) = 7 1023", "bucket(1) = 3");
         Due.calls(x, "wipe(1) = 9", "never() = 0", "stone(0, *) = 0 0", "forget() = 1", "never() = 1", "stone(0, 0) = 7");
         for (int saying = 0; saying < 8; saying++) {
-            WellTalk eight = Due.village(EIGHT_DOWN, "a0ia;a0iab;a0iabc;a0iabcd;a0ia;a0iab;a0iabc;a0iabcd", COIN, 30, 0);
+            WellTalk eight = Due.village(Due.EIGHT_DOWN, "a0ia;a0iab;a0iabc;a0iabcd;a0ia;a0iab;a0iabc;a0iabcd", COIN, 30, 0);
             for (int letters = 0; letters < 5; letters++) {
                 boolean isSo = letters == saying % 4 + 1;
                 boolean byWood = letters == Math.max(0, saying % 4 - 2);
@@ -73,6 +72,8 @@ public final class DrawnEdgesTest {
         }
         WellTalk two = Due.village("g9;g5", "a0ia", LID, 0, 0, LID, 0, 0);
         Due.calls(two, "draw(0, 0, 1) = 1", "never() = 0", "forget() = 1", "draw(0, 0, 0) = 1", "never() = 3", "gone() = 1");
+        WellTalk wood = Due.village("g9;g8;g7", "a0wab;a0wab", COIN, 30, 0);
+        Due.calls(wood, "draw(2, 0, 1) = 1", "never() = 1", "draw(2, 1, 1) = 2", "never() = 1", "draw(2, 0, 2) = 3", "never() = 0");
         WellTalk coins = Due.village("g9;c5;g1", "a0iab;a1ia", COIN, 1, 0, DROUGHT, 2, 0);
         Due.calls(coins, "draw(1, 0, 1) = 1", "never() = 1", "forget() = 1", "draw(2, 0, 2) = 1", "never() = 0", "forget() = 1");
         Due.calls(coins, "draw(3, 0, 2) = 1", "never() = 0", "forget() = 1", "draw(3, 0, 1) = 1", "never() = 3");
@@ -97,9 +98,11 @@ public final class DrawnEdgesTest {
             Due.calls(y, "draw(1, 0, 2) = 1", "stone(0, 0) = 4", "draw(2, 0, 2) = 2", "stone(0, 0) = 0", "forget() = 2");
             Due.calls(y, "draw(1, 0, 1) = 1", "stone(0, 0) = 3", "draw(2, 0, 1) = 2", "stone(0, 0) = 3");
         }
+        WellTalk wood = Due.village("g9;g8;g7", "a0wab;a0iab");
+        Due.calls(wood, "draw(2, 0, 1) = 1", "stone(1, *) = 1 383", "draw(2, 1, 2) = 2", "stone(1, *) = 1 383");
         WellTalk one = Due.village("g9;g5;c1", "a0iab");
         Due.calls(one, "draw(3, 0, 2) = 1", "stone(1, 0) = 0", "forget() = 1", "draw(2, 0, 2) = 1", "stone(1, 0) = 4", "stone(2, 0) = 5");
-        WellTalk eight = Due.village(EIGHT_DOWN, "a0ia;a0ia;a0ia;a0ia;a0ia;a0ia;a0ia;a6iab");
+        WellTalk eight = Due.village(Due.EIGHT_DOWN, "a0ia;a0ia;a0ia;a0ia;a0ia;a0ia;a0ia;a6iab");
         Due.calls(eight, "draw(1, 7, 1) = 1", "stone(7, *) = 2 0", "stone(6, 0) = 0", "stone(0, 0) = 0");
     }
 
@@ -199,7 +202,7 @@ public final class DrawnEdgesTest {
             long all = 1L << 32;
             long coins = (long) c * c * c * c * c * c * c * c;
             long lids = (long) not * not * not * not * not * not * not * not;
-            dueFraction(Due.village(EIGHT_DOWN, "a7ia", COIN, 1, 7, COIN, 2, 6, COIN, 3, 5, COIN, 4, 4, COIN, 5, 3, COIN, 6, 2,
+            dueFraction(Due.village(Due.EIGHT_DOWN, "a7ia", COIN, 1, 7, COIN, 2, 6, COIN, 3, 5, COIN, 4, 4, COIN, 5, 3, COIN, 6, 2,
                 COIN, 7, 1, DROUGHT, 8, 0), c, 0, 0, coins / Math.max(1, c) * 16, all);
             WellTalk full = Due.village("g9;g5", "a0ia", LID, 0, 0, LID, 0, 0, LID, 0, 0, LID, 0, 0, LID, 0, 0, LID, 0, 0,
                 LID, 0, 0, LID, 0, 0);

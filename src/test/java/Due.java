@@ -7,6 +7,9 @@ import java.util.regex.Pattern;
 final class Due {
     private static final Pattern ROW = Pattern.compile("(\\w+)\\(([^)]*)\\) = (.+)");
 
+    /** Eight wells, each one lower than the one ahead. */
+    static final String EIGHT_DOWN = "g9;g8;g7;g6;g5;g4;g3;g2";
+
     private static int right = 0;
     private static int wrong = 0;
     private static String sentence = "";
@@ -121,6 +124,11 @@ final class Due {
         WellTalk x = village(wells, sayings);
         events(x, told);
         return x;
+    }
+
+    /** A village in which well 1 is reached by a COIN in HOUR 39, and by no earlier one: it is COVERED from 24 to 38. */
+    static WellTalk onlyInTheLastHour(String sayings) {
+        return village("g0;g5", sayings, 1, 24, 1, 1, 27, 1, 1, 30, 1, 1, 33, 1, 1, 36, 1);
     }
 
     static void retype(WellTalk x, int text, String s) {

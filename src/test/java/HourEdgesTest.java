@@ -1,13 +1,7 @@
 /** The edges that the document names of its part 2: where SAYINGS are, who hears what; promises 11 to 15. */
 public final class HourEdgesTest {
     private static final int COIN = 0, LID = 1, DROUGHT = 2;
-    private static final String EIGHT_DOWN = "g9;g8;g7;g6;g5;g4;g3;g2";
     private static final String EIGHT_SAID = "a0ia;a0ia;a0ia;a0ia;a0ia;a0ia;a0ia;a0ia";
-
-    /** By a COIN in HOUR 39, and in no earlier one: well 1 is COVERED from 24 to 38. */
-    private static WellTalk onlyInTheLastHour(String sayings) {
-        return Due.village("g0;g5", sayings, LID, 24, 1, LID, 27, 1, LID, 30, 1, LID, 33, 1, LID, 36, 1);
-    }
 
     private static void at() {
         Due.says("HOURS are 0 to 39.");
@@ -27,10 +21,10 @@ public final class HourEdgesTest {
         Due.calls(y, "at(0, 0, *) = NONE 4 0 3 0", "at(1, 0, *) = NONE 4 0 3 0", "at(2, 0, *) = 0 4 0 3 0", "at(3, 0, *) = 1 3 0 2 1");
         Due.calls(y, "at(1, 1, *) = NONE 4 4 7 0", "at(2, 1, *) = NONE 0 NONE NONE 0", "at(39, 1, *) = NONE 0 NONE NONE 0");
         Due.calls(y, "at(1, 2, *) = NONE 1 2 2 0", "at(2, 2, *) = 0 1 2 2 0", "at(3, 2, *) = NONE 0 NONE NONE 0");
-        WellTalk last = onlyInTheLastHour("x0ih;x0wa");
+        WellTalk last = Due.onlyInTheLastHour("x0ih;x0wa");
         Due.calls(last, "at(39, 0, *) = 0 1 7 7 0", "event(0, 39, 0) = 6", "at(38, 0, *) = 0 1 7 7 0", "at(39, 0, *) = 1 1 7 7 1");
         Due.calls(last, "back() = 5", "event(0, 38, 0) = 6", "at(37, 0, *) = 0 1 7 7 0", "at(38, 0, *) = NONE 0 NONE NONE 0");
-        WellTalk eight = Due.village(EIGHT_DOWN, EIGHT_SAID.substring(0, 35) + "a7ih");
+        WellTalk eight = Due.village(Due.EIGHT_DOWN, EIGHT_SAID.substring(0, 35) + "a7ih");
         Due.calls(eight, "at(5, 7, *) = 7 1 7 7 0", "at(7, 6, *) = 7 1 0 0 1", "at(7, 8, 0) = BAD");
     }
 
@@ -39,10 +33,10 @@ public final class HourEdgesTest {
         WellTalk two = Due.village("g9;g5", "a0ia");
         Due.calls(two, "hears(*) = 0 1 BAD", "hears(-1) = BAD", "hears(7) = BAD", "hears(MIN) = BAD", "hears(MAX) = BAD");
         Due.says("HEARS of a WELL: SAYINGS that are ever HEARD there, as bits.");
-        WellTalk x = Due.village(EIGHT_DOWN, "a0ia;a1ia;a2ia;a3ia;a4ia;a5ia;a6ia;a7ia");
+        WellTalk x = Due.village(Due.EIGHT_DOWN, "a0ia;a1ia;a2ia;a3ia;a4ia;a5ia;a6ia;a7ia");
         Due.calls(x, "hears(*) = 0 1 3 7 15 31 63 127 BAD", "hears(-1) = BAD", "hears(MIN) = BAD", "hears(MAX) = BAD");
         Due.calls(x, "event(0, 39, 7) = 1", "hears(*) = 0 1 3 7 15 31 255 127", "event(0, 1, 7) = 2", "hears(7) = 255");
-        Due.calls(onlyInTheLastHour("x0ia"), "hears(*) = 0 0 BAD", "event(0, 39, 0) = 6", "hears(*) = 0 1");
+        Due.calls(Due.onlyInTheLastHour("x0ia"), "hears(*) = 0 0 BAD", "event(0, 39, 0) = 6", "hears(*) = 0 1");
         Due.calls(Due.village("g9;g5;c1", "a0ia;a0iab"), "hears(*) = 0 3 2", "undo(0) = 7", "hears(0) = BAD");
         Due.calls(Due.village("g9;g5", ""), "hears(*) = 0 0 BAD");
     }
@@ -57,8 +51,8 @@ public final class HourEdgesTest {
         Due.calls(Due.village("g9;g5", "a0ia"), "soon(1) = 1");
         Due.calls(Due.village("g9;g5", "x0ia"), "soon(1) = 24", "undo(1) = 3", "soon(1) = NONE");
         Due.calls(Due.village("g9;g5;g0", "a1ia;a0ia"), "soon(*) = NONE 1 1");
-        Due.calls(onlyInTheLastHour("x0ia"), "soon(1) = NONE", "event(0, 39, 0) = 6", "soon(1) = 39", "soon(0) = NONE");
-        Due.calls(Due.village(EIGHT_DOWN, EIGHT_SAID.substring(0, 35) + "a6ia"), "soon(*) = NONE 1 2 3 4 5 6 1");
+        Due.calls(Due.onlyInTheLastHour("x0ia"), "soon(1) = NONE", "event(0, 39, 0) = 6", "soon(1) = 39", "soon(0) = NONE");
+        Due.calls(Due.village(Due.EIGHT_DOWN, EIGHT_SAID.substring(0, 35) + "a6ia"), "soon(*) = NONE 1 2 3 4 5 6 1");
         Due.calls(Due.village("g9;g5", "a1ia", COIN, 5, 1), "soon(*) = 5 6");
         Due.calls(Due.village("", "a0ia"), "soon(0) = BAD");
     }
@@ -103,12 +97,12 @@ public final class HourEdgesTest {
         Due.calls(Due.village("g9;c5", "a0ia;a0ib"), "babel(*) = NONE NONE");
         Due.calls(Due.village("g9;c5", "a0ia;a0iab;a0iab"), "babel(*) = 1 1");
         Due.calls(Due.village("g9;g5", "x0ia;x0ia"), "babel(*) = 24 1");
-        WellTalk last = onlyInTheLastHour("x0ia;x0ib");
+        WellTalk last = Due.onlyInTheLastHour("x0ia;x0ib");
         Due.calls(last, "babel(*) = NONE NONE", "event(0, 39, 0) = 6", "babel(*) = 39 1");
-        Due.calls(Due.village(EIGHT_DOWN, "a6ia;a6ia"), "babel(*) = 1 7");
-        Due.calls(Due.village(EIGHT_DOWN, EIGHT_SAID, DROUGHT, 1, 3), "babel(*) = 1 7");
-        Due.calls(Due.village(EIGHT_DOWN, "a0ia;a1ia;a2ia;a3ia;a4ia;a5ia;a6ia;a6ia"), "babel(*) = 1 7");
-        Due.calls(Due.village("g0;" + EIGHT_DOWN.substring(3), "a1ia;a2ia", DROUGHT, 1, 0), "babel(*) = 1 0");
+        Due.calls(Due.village(Due.EIGHT_DOWN, "a6ia;a6ia"), "babel(*) = 1 7");
+        Due.calls(Due.village(Due.EIGHT_DOWN, EIGHT_SAID, DROUGHT, 1, 3), "babel(*) = 1 7");
+        Due.calls(Due.village(Due.EIGHT_DOWN, "a0ia;a1ia;a2ia;a3ia;a4ia;a5ia;a6ia;a6ia"), "babel(*) = 1 7");
+        Due.calls(Due.village("g0;" + Due.EIGHT_DOWN.substring(3), "a1ia;a2ia", DROUGHT, 1, 0), "babel(*) = 1 0");
     }
 
     /** What is asked first behind a change is asked as things are then. */

@@ -1,13 +1,7 @@
 /** The edges that the document names of its part 3: TELL, THROW, OPEN, IRON; promises 16 to 19. */
 public final class PlanEdgesTest {
     private static final int COIN = 0, LID = 1, DROUGHT = 2;
-    private static final String EIGHT_DOWN = "g9;g8;g7;g6;g5;g4;g3;g2";
     private static final String SEVEN_SAID = "a0ib;a0ib;a0ib;a0ib;a0ib;a0ib;a0ib";
-
-    /** By a COIN in HOUR 39, and in no earlier one: well 1 is COVERED from 24 to 38. */
-    private static WellTalk onlyInTheLastHour(String sayings) {
-        return Due.village("g0;g5", sayings, LID, 24, 1, LID, 27, 1, LID, 30, 1, LID, 33, 1, LID, 36, 1);
-    }
 
     private static void refusedTells() {
         Due.says("TELL: which (what = 0), the HOUR (1); NONE. BAD.");
@@ -37,9 +31,9 @@ public final class PlanEdgesTest {
         Due.calls(Due.village("g9;g5;g1", "a0ia", COIN, 3, 2), "tell(0, 1, *) = 0 1", "tell(0, 0, *) = NONE NONE");
         Due.calls(Due.village("g1;g5;g9", "a0ia", COIN, 2, 1), "tell(0, 2, *) = 2 2", "tell(0, 0, *) = 1 1");
         Due.calls(Due.village("g1;g5;g9", "a0ia", DROUGHT, 1, 0), "tell(0, 0, *) = 1 1", "tell(0, 1, *) = NONE NONE");
-        Due.calls(onlyInTheLastHour("x0ia"), "tell(0, 1, *) = NONE NONE", "event(0, 39, 0) = 6", "tell(0, 1, *) = 0 39");
-        Due.calls(Due.village(EIGHT_DOWN, "a0ia;a0ia;a0ia;a0ia;a0ia;a0ia;a0ia;x0ia"), "tell(7, 7, *) = 6 24", "tell(7, 1, *) = 0 24");
-        Due.calls(Due.village("g2;" + EIGHT_DOWN.substring(3, 20) + ";g9", "a0ia"), "tell(0, 1, *) = 7 1", "tell(0, 0, *) = 6 1");
+        Due.calls(Due.onlyInTheLastHour("x0ia"), "tell(0, 1, *) = NONE NONE", "event(0, 39, 0) = 6", "tell(0, 1, *) = 0 39");
+        Due.calls(Due.village(Due.EIGHT_DOWN, "a0ia;a0ia;a0ia;a0ia;a0ia;a0ia;a0ia;x0ia"), "tell(7, 7, *) = 6 24", "tell(7, 1, *) = 0 24");
+        Due.calls(Due.village("g2;" + Due.EIGHT_DOWN.substring(3, 20) + ";g9", "a0ia"), "tell(0, 1, *) = 7 1", "tell(0, 0, *) = 6 1");
     }
 
     private static void refusedTosses() {
@@ -67,8 +61,8 @@ public final class PlanEdgesTest {
         Due.calls(Due.village("g5;g0", "x1ia"), "toss(0, *) = 24 1 1", "toss(1, *) = 24 1 1");
         Due.calls(Due.village("g0;g5", "a0ia", LID, 1, 1), "toss(1, *) = 4 0 1");
         Due.calls(Due.village("g9;g5;g0", "a1ia", COIN, 1, 1), "toss(0, *) = 0 0 1", "toss(1, *) = 0 0 1");
-        Due.calls(onlyInTheLastHour("x0ia;x0ia"), "toss(1, *) = 39 0 2", "toss(0, *) = 0 0 0");
-        Due.calls(Due.village(EIGHT_DOWN, "a7ia;a7ia;a7ia;a7ia;a7ia;a7ia;a7ia;a7ia"), "toss(6, *) = 1 7 8", "toss(7, *) = 1 7 8",
+        Due.calls(Due.onlyInTheLastHour("x0ia;x0ia"), "toss(1, *) = 39 0 2", "toss(0, *) = 0 0 0");
+        Due.calls(Due.village(Due.EIGHT_DOWN, "a7ia;a7ia;a7ia;a7ia;a7ia;a7ia;a7ia;a7ia"), "toss(6, *) = 1 7 8", "toss(7, *) = 1 7 8",
             "toss(5, *) = 0 0 0");
     }
 
@@ -169,7 +163,7 @@ public final class PlanEdgesTest {
         Due.calls(Due.village("g9;g5;g0", "a0wa", LID, 1, 0), "open(2, NONE) = NONE", "open(1, NONE) = 0");
         Due.calls(Due.village("g9;g5;g0", "a0wa", LID, 1, 1), "open(2, NONE) = 0", "open(1, NONE) = 1");
         Due.calls(Due.village("g9;g5;g0", "", LID, 0, 0), "open(0, NONE) = 0", "open(0, *) = NONE NONE");
-        WellTalk last = onlyInTheLastHour("x0ia");
+        WellTalk last = Due.onlyInTheLastHour("x0ia");
         Due.calls(last, "event(0, 39, 0) = 6", "open(1, NONE) = 0", "event(1, 38, 1) = 7", "open(1, NONE) = 1", "open(1, *) = 6 NONE");
     }
 

@@ -1,7 +1,6 @@
 /** The edges that the document names of SHEETS, FINDINGS, counts and the digest: its head on them, promises 28 to 35. */
 public final class SheetEdgesTest {
-    private static final int BYTES = 0, SHORTS = 1, INTS = 2;
-    private static final String EIGHT_DOWN = "g9;g8;g7;g6;g5;g4;g3;g2";
+    private static final int SHORTS = 1, INTS = 2;
 
     private static void sheets() {
         Due.says("A SHEET is a new row of a FORM with n items: n. BAD: SHEET, FORM, above 60; SIZE.");
@@ -139,7 +138,7 @@ public final class SheetEdgesTest {
             Due.calls(x, "sheet(" + of + "41) = 41", "write(0, 3) = 40", "get(" + of + "39) = 0", "get(" + of + "40) = 0");
         }
         Due.calls(x, "count(8) = 1", "write(2, 3) = 40", "wipe(1) = 14", "write(0, 3) = BAD");
-        WellTalk eight = Due.village(EIGHT_DOWN, "a0ia;a0ia;a0ia;a0ia;a0ia;a0ia;a0ia;a0ia");
+        WellTalk eight = Due.village(Due.EIGHT_DOWN, "a0ia;a0ia;a0ia;a0ia;a0ia;a0ia;a0ia;a0ia");
         Due.calls(eight, "sheet(0, 0, 9) = 9", "write(7, 0) = 9", "get(0, 0, *) = 0 1 2 3 4 5 6 7 7", "write(8, 0) = BAD");
         WellTalk first = Due.village("g9;g5", "a0ia");
         Due.calls(first, "sheet(2, 1, 3) = 3", "write(0, 2) = 3", "get(2, 1, *) = 0 1 1", "event(1, 0, 0) = 1", "write(0, 2) = 3");
@@ -151,7 +150,7 @@ public final class SheetEdgesTest {
             + "7 DRAWN, 8 the number of the latest FINDING (0 before any). BAD.");
         WellTalk x = new WellTalk();
         Due.calls(x, "count(*) = 0 0 0 0 0 0 0 0 0 BAD", "count(-1) = BAD", "count(MIN) = BAD", "count(MAX) = BAD");
-        WellTalk most = Due.village(EIGHT_DOWN, "a0ia;a0ia;a0ia;a0ia;a0ia;a0ia;a0ia;a0ia", 1, 39, 0, 1, 39, 0, 1, 39, 0, 1, 39, 0,
+        WellTalk most = Due.village(Due.EIGHT_DOWN, "a0ia;a0ia;a0ia;a0ia;a0ia;a0ia;a0ia;a0ia", 1, 39, 0, 1, 39, 0, 1, 39, 0, 1, 39, 0,
             1, 39, 0, 1, 39, 0, 1, 39, 0, 1, 39, 0);
         for (int d = 1; d <= 8; d++) {
             Due.calls(most, "draw(0, 0, 0) = " + d);

@@ -1,7 +1,6 @@
 /** The edges that the document's head names of the way of a SAYING: LIDS, stays, COINS, DROUGHTS, letters. */
 public final class WayEdgesTest {
     private static final int COIN = 0, LID = 1, DROUGHT = 2;
-    private static final String EIGHT_DOWN = "g9;g8;g7;g6;g5;g4;g3;g2";
 
     private static void fromItsHourOn() {
         Due.says("A SAYING is in its WELL from its HOUR on, if there is such a one, and it is not COVERED then; else it is LOST.");
@@ -11,9 +10,9 @@ public final class WayEdgesTest {
         Due.calls(x, "at(1, 2, *) = NONE 2 4 5 0", "at(2, 2, *) = NONE 0 NONE NONE 0", "at(39, 2, *) = NONE 0 NONE NONE 0");
         Due.calls(x, "gone() = 4", "count(5) = 1");
         for (int well = 0; well < 8; well++) {
-            WellTalk few = Due.village(EIGHT_DOWN.substring(0, Math.max(0, 3 * well - 1)), "b" + well + "ia");
+            WellTalk few = Due.village(Due.EIGHT_DOWN.substring(0, Math.max(0, 3 * well - 1)), "b" + well + "ia");
             Due.calls(few, "count(0) = " + well, "at(0, 0, *) = NONE 1 0 0 0", "at(1, 0, *) = NONE 0 NONE NONE 0", "gone() = 1");
-            WellTalk enough = Due.village(EIGHT_DOWN.substring(0, 3 * well + 2), "b" + well + "ia");
+            WellTalk enough = Due.village(Due.EIGHT_DOWN.substring(0, 3 * well + 2), "b" + well + "ia");
             Due.calls(enough, "at(0, 0, *) = NONE 1 0 0 0", "at(1, 0, *) = " + well + " 1 0 0 0", "gone() = 0");
         }
     }
@@ -44,7 +43,7 @@ public final class WayEdgesTest {
         }
         WellTalk late = Due.village("g9;g5", "a0ia", LID, 38, 0, LID, 39, 0, LID, 38, 1, LID, 39, 1);
         Due.calls(late, "at(*, 0, 0) = 0 1 1", "gone() = 0", "at(39, 0, 0) = 1");
-        WellTalk seventh = Due.village(EIGHT_DOWN, "a6ia", LID, 1, 7);
+        WellTalk seventh = Due.village(Due.EIGHT_DOWN, "a6ia", LID, 1, 7);
         Due.calls(seventh, "at(*, 0, 0) = 6 NONE", "gone() = 1");
     }
 
@@ -71,7 +70,7 @@ public final class WayEdgesTest {
         }
         Due.calls(Due.village("g9;g5;g1", "b1ia", COIN, 2, 1, COIN, 2, 1), "at(*, 0, 0) = NONE 1 0 1 2");
         Due.calls(Due.village("g9;g5;g1", "a2ia", COIN, 1, 2, COIN, 2, 1), "at(*, 0, 0) = 2 1 0 1 2 2");
-        WellTalk all = Due.village(EIGHT_DOWN, "a7ia", COIN, 1, 7, COIN, 2, 6, COIN, 3, 5, COIN, 4, 4, COIN, 5, 3,
+        WellTalk all = Due.village(Due.EIGHT_DOWN, "a7ia", COIN, 1, 7, COIN, 2, 6, COIN, 3, 5, COIN, 4, 4, COIN, 5, 3,
             COIN, 6, 2, COIN, 7, 1, COIN, 8, 0);
         Due.calls(all, "at(*, 0, 0) = 7 6 5 4 3 2 1 0 0 1 2 3 4 5 6 7 7", "count(6) = 14");
         WellTalk last = Due.village("g9;g0", "a1ia", COIN, 39, 1);
@@ -121,9 +120,9 @@ public final class WayEdgesTest {
         Due.calls(Due.village("g9;g5;s3;g1", "a0ia", LID, 1, 1), "at(*, 0, 0) = 0 2 2 3");
         Due.calls(Due.village("s9;g5;g3", "a0ia", LID, 1, 1), "at(*, 0, 0) = 0 0 2 2");
         Due.calls(Due.village("g9;g5;g3", "a0ia", LID, 2, 1), "at(*, 0, 0) = 0 1 2 2");
-        WellTalk six = Due.village(EIGHT_DOWN, "a0ia", LID, 1, 1, LID, 1, 2, LID, 1, 3, LID, 1, 4, LID, 1, 5, LID, 1, 6);
+        WellTalk six = Due.village(Due.EIGHT_DOWN, "a0ia", LID, 1, 1, LID, 1, 2, LID, 1, 3, LID, 1, 4, LID, 1, 5, LID, 1, 6);
         Due.calls(six, "at(*, 0, 0) = 0 7 7", "event(1, 1, 7) = 7", "at(*, 0, 0) = 0 NONE", "gone() = 1");
-        WellTalk rise = Due.village(EIGHT_DOWN, "a7ia", COIN, 1, 7, LID, 1, 1, LID, 1, 2, LID, 1, 3, LID, 1, 4, LID, 1, 5, LID, 1, 6);
+        WellTalk rise = Due.village(Due.EIGHT_DOWN, "a7ia", COIN, 1, 7, LID, 1, 1, LID, 1, 2, LID, 1, 3, LID, 1, 4, LID, 1, 5, LID, 1, 6);
         Due.calls(rise, "at(*, 0, 0) = 7 0 7", "event(1, 1, 0) = 8", "at(*, 0, 0) = 7 NONE", "gone() = 1");
     }
 
@@ -167,8 +166,8 @@ public final class WayEdgesTest {
         Due.calls(x, "at(1, *, 0) = 1 1 1 1", "at(1, *, 4) = 1 0 1 1", "at(39, *, 0) = 1 1 1 1", "hears(1) = 13");
         Due.calls(Due.village("g5;g5", "a0ia;a1ia", DROUGHT, 1, 0), "at(1, *, 0) = 0 0", "hears(0) = 2", "count(6) = 1");
         Due.calls(Due.village("s5", "a0ia", DROUGHT, 1, 0, LID, 1, 0), "at(39, 0, *) = 0 1 0 0 0", "count(6) = 0");
-        Due.calls(Due.village(EIGHT_DOWN, "a0ia", DROUGHT, 1, 0), "at(*, 0, 0) = 0 7 7");
-        Due.calls(Due.village("g0;" + EIGHT_DOWN.substring(3), "a7ia", DROUGHT, 1, 0), "at(*, 0, 0) = 7 0 0");
+        Due.calls(Due.village(Due.EIGHT_DOWN, "a0ia", DROUGHT, 1, 0), "at(*, 0, 0) = 0 7 7");
+        Due.calls(Due.village("g0;" + Due.EIGHT_DOWN.substring(3), "a7ia", DROUGHT, 1, 0), "at(*, 0, 0) = 7 0 0");
     }
 
     /** In THE LAST WELL a DROUGHT does nothing; what has come by it stays there as after any coming. */
@@ -200,7 +199,7 @@ public final class WayEdgesTest {
         Due.calls(covered, "at(*, 0, 1) = 4 4 3 3", "at(*, 0, 0) = 0 2 3 3");
         WellTalk dry = Due.village("g9;g8;g7;g1", "a0wabcd;a0wa", DROUGHT, 2, 0);
         Due.calls(dry, "at(*, 0, 1) = 4 4 3 3", "at(*, 1, 0) = 0 1 NONE", "gone() = 2");
-        WellTalk down = Due.village(EIGHT_DOWN, "a0wabcd;a0wabc;a0wab;a0wa");
+        WellTalk down = Due.village(Due.EIGHT_DOWN, "a0wabcd;a0wabc;a0wab;a0wa");
         Due.calls(down, "at(*, 0, 1) = 4 4 3 3 2 2 1 1 1", "at(*, 1, 1) = 3 3 2 2 1 1 0", "at(*, 2, 1) = 2 2 1 1 0", "at(*, 3, 1) = 1 1 0");
     }
 
